@@ -618,7 +618,9 @@ public final class ClockCall {
             this.slots = new int[MOST_OPTIONS];
             this.byRole = new int[ROLES];
             this.chosen = new int[WEEKS];
-            Arrays.fill(this.chosen, NONE);
+            for (int week = 0; week < WEEKS; week++) {
+                this.chosen[week] = NONE;
+            }
         }
 
         boolean isSplit() {
@@ -977,11 +979,15 @@ public final class ClockCall {
             for (int c = 0; c < MOST_PAIRS; c++) {
                 if (isIn(fitting[k], c)) {
                     way[k] = c;
-                    charge(priceAt(k, c), 1);
-                    search(k + 1);
-                    charge(priceAt(k, c), -1);
+                    searchBehind(k, priceAt(k, c));
                 }
             }
+        }
+
+        private void searchBehind(int k, int priceAt) {
+            charge(priceAt, 1);
+            search(k + 1);
+            charge(priceAt, -1);
         }
 
         private void charge(int at, int sign) {
