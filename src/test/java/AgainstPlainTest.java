@@ -1,8 +1,9 @@
 import java.util.Random;
 
-/** Runs of 512 calls, drawn from fixed seeds, answered by ClockCall and by the plain one alike. */
+/** Runs of up to 512 calls, drawn from fixed seeds, answered by ClockCall and by the plain one alike. */
 public final class AgainstPlainTest {
     private static final int CALLS = 512;
+    private static final int MOST_OF_ONE_STEP = 1 + 13 + 6 * 2;
     private static final int[] WILD = {Integer.MIN_VALUE, -1000, -2, -1, 0, 1, 12, 48, 336, 364, 17472, 100000, Integer.MAX_VALUE};
 
     private static final int[] IN_WORLD = {9, 9, 9, 9, 9, 9, 9, 9, 9, 10, 10, 7, 4, 14};
@@ -14,6 +15,7 @@ public final class AgainstPlainTest {
     private final int[] seen;
     private final int setUp;
     private final int spread;
+    private int calls;
     private boolean isWrong;
 
     private AgainstPlainTest(long seed, int[] seen) {
@@ -24,13 +26,13 @@ public final class AgainstPlainTest {
     }
 
     public static void main(String[] args) {
-        int runs = args.length > 0 ? Integer.parseInt(args[0]) : 600;
+        int runs = args.length > 0 ? Integer.parseInt(args[0]) : 4000;
         int first = args.length > 1 ? Integer.parseInt(args[1]) : 1;
         int[] seen = new int[64];
         for (int seed = first; seed < first + runs; seed++) {
             AgainstPlainTest test = new AgainstPlainTest(seed, seen);
-            int made = seed % 3 == 0 ? 0 : test.makeWorld();
-            for (int k = made; k < CALLS && !test.isWrong; k++) test.call(k);
+            if (seed % 3 != 0) test.makeWorld();
+            for (int k = 0; test.calls <= CALLS - MOST_OF_ONE_STEP && !test.isWrong; k++) test.call(k);
             if (test.isWrong) {
                 System.out.println("seed " + seed + ":\n" + test.log);
                 System.exit(1);
@@ -40,7 +42,7 @@ public final class AgainstPlainTest {
                 + seen[11] + " " + seen[12] + " " + seen[13] + " " + seen[14] + "), moved none " + seen[20] + ", one "
                 + seen[21] + ", two " + seen[22] + ", three " + seen[23] + ", four " + seen[24] + ", not moved " + seen[2]);
         for (int what : new int[] {0, 1, 10, 11, 12, 13, 20, 21, 22, 23, 2}) {
-            if (seen[what] == 0 && runs >= 500) {
+            if (seen[what] == 0 && runs >= 4000) {
                 System.out.println("the runs never met case " + what);
                 System.exit(1);
             }
@@ -49,34 +51,31 @@ public final class AgainstPlainTest {
     }
 
     /** Enough persons and options that plans, moves and stuck ones are not trivial. */
-    private int makeWorld() {
-        int calls = 0;
+    private void makeWorld() {
         int size = 3 + random.nextInt(10);
-        for (int l = 0; l < 3; l++, calls++) due("land", real.land(l * 3), plain.land(l * 3));
+        for (int l = 0; l < 3; l++) due("land", real.land(l * 3), plain.land(l * 3));
         for (int p = 0; p < size; p++) {
             int l = random.nextInt(3);
             due("person", real.person(l, 0), plain.person(l, 0));
             due("row", of(real.row(p, 48)), of(plain.row(p, 48)));
-            for (int c = random.nextInt(12); c > 0; c--, calls++) {
+            for (int c = random.nextInt(12); c > 0; c--) {
                 int i = (10 + random.nextInt(spread + 6)) % 48, v = random.nextInt(25) == 0 ? -1 : random.nextInt(6);
                 due("cell " + p + " " + i + " " + v, of(real.cell(p, i, v)), of(plain.cell(p, i, v)));
             }
-            calls += 2;
         }
-        for (int s = 0; s < 4; s++, calls++) {
+        for (int s = 0; s < 4; s++) {
             int length = 1 + random.nextInt(2), chain = random.nextInt(3) == 0 ? s - 1 : -1, chair = random.nextInt(2) == 0 ? random.nextInt(size) : -1;
             due("series " + length + " " + chain + " " + chair, real.series(length, chain, chair), plain.series(length, chain, chair));
-            for (int o = 3 + random.nextInt(4); o > 0; o--, calls++) {
+            for (int o = 3 + random.nextInt(4); o > 0; o--) {
                 int t = 10 + random.nextInt(spread);
                 due("option " + s + " " + t, real.option(s, t), plain.option(s, t));
             }
             int must = random.nextInt(4);
-            for (int p = 0; p < size; p++, calls++) {
+            for (int p = 0; p < size; p++) {
                 int r = random.nextInt(4) < must ? 1 : random.nextInt(2) == 0 ? 0 : 2 + random.nextInt(4);
                 due("role " + s + " " + p + " " + r, of(real.role(s, p, r)), of(plain.role(s, p, r)));
             }
         }
-        return calls;
     }
 
     private int upTo(int size) {
@@ -98,6 +97,7 @@ public final class AgainstPlainTest {
     private int offset() { return random.nextInt(30) == 0 ? 29 - 54 * random.nextInt(2) : random.nextInt(2) == 0 ? random.nextInt(9) - 4 : random.nextInt(53) - 24; }
 
     private void due(String call, int got, int want) {
+        calls++;
         log.append(call).append(" -> ").append(got).append('\n');
         if (got != want) {
             log.append("due is ").append(want).append('\n');
@@ -223,16 +223,14 @@ public final class AgainstPlainTest {
         int want = plain.plan(s, a, b, n);
         due("plan " + s + " " + a + " " + b + " " + n, real.plan(s, a, b, n), want);
         int held = 0;
-        for (int i = 0; i < 13; i++) {
-            due("stuck " + i, real.stuck(i), plain.stuck(i));
-            held += plain.stuck(i) == -1 ? 0 : 1;
-        }
+        while (plain.stuck(held) != -1) due("stuck " + held, real.stuck(held), plain.stuck(held++));
+        due("stuck " + held, real.stuck(held), -1);
         if (want == -1) {
             seen[1]++;
             seen[10 + Math.min(4, held)]++;
         } else if (want >= 0) {
             seen[0]++;
-            for (int w = a; w < b; w++) dueOfWeek(w);
+            for (int w = a; w < b; w++) duePlanned(s, w);
         }
     }
 
@@ -242,7 +240,7 @@ public final class AgainstPlainTest {
         due("move " + w + " " + n, real.move(w, n), want);
         if (want == -1) seen[2]++;
         else if (want >= 0 && hasMeeting(w)) seen[20 + want]++;
-        dueOfWeek(w);
+        for (int s = 0; s < plain.count(3); s++) duePlanned(s, w);
     }
 
     private boolean hasMeeting(int week) {
@@ -252,11 +250,9 @@ public final class AgainstPlainTest {
         return false;
     }
 
-    private void dueOfWeek(int week) {
-        for (int s = 0; s < 4; s++) {
-            for (int what = 0; what < 4; what++) {
-                due("planned " + s + " " + week + " " + what, real.planned(s, week, what), plain.planned(s, week, what));
-            }
+    private void duePlanned(int s, int week) {
+        for (int what = 0; what < 2; what++) {
+            due("planned " + s + " " + week + " " + what, real.planned(s, week, what), plain.planned(s, week, what));
         }
     }
 }

