@@ -54,7 +54,9 @@ public final class LanguageTest {
             members(c);
         }
         members(ClockCall.class);
-        source(Files.readString(Path.of("src/main/java/ClockCall.java")));
+        String text = Files.readString(Path.of("src/main/java/ClockCall.java"));
+        faceAsWritten(text);
+        source(text);
         System.out.println(asked + " checks, " + wrong + " of them failed");
         if (wrong != 0) System.exit(1);
     }
@@ -76,6 +78,7 @@ public final class LanguageTest {
             check(Modifier.isPrivate(f.getModifiers()) || f.getName().equals("NONE"), f + " is private");
         }
         check(Modifier.isPublic(c.getDeclaredField("NONE").getModifiers()), "NONE is public");
+        check(ClockCall.NONE == -1, "NONE is -1");
     }
 
     private static String signature(Method m) {
@@ -85,6 +88,21 @@ public final class LanguageTest {
             all.append(p);
         }
         return all.append(")").toString();
+    }
+
+    /** The document's own lines, with the names that it gives to parameters. */
+    private static void faceAsWritten(String code) throws Exception {
+        Path document = Path.of("../shared/DOC.md");
+        if (!Files.exists(document)) return;
+        Set<String> due = publicOnes(Files.readString(document));
+        check(due.size() == 2 + FACE.length && due.equals(publicOnes(code)), "the public face is as the document writes it: " + due);
+    }
+
+    private static Set<String> publicOnes(String text) {
+        Set<String> all = new TreeSet<>();
+        Matcher found = Pattern.compile("^ {4}public ([^;{\\n]*)[;{]", Pattern.MULTILINE).matcher(text);
+        while (found.find()) all.add(found.group(1).trim());
+        return all;
     }
 
     private static void members(Class<?> c) {

@@ -5,7 +5,6 @@ public final class PromiseEdgesTest {
     public static void main(String[] args) throws Exception {
         all = new Sentences();
         newObject();
-        allCalls();
         landsAndPersons();
         rowsAndCells();
         changesAndFeasts();
@@ -24,6 +23,7 @@ public final class PromiseEdgesTest {
         sums();
         shiftedOnes();
         counts();
+        for (int promise = 1; promise <= 26; promise++) all.mustAllBeQuoted(promise);
         all.end();
     }
 
@@ -40,13 +40,6 @@ public final class PromiseEdgesTest {
                 planned(0, 0, {0..3}) = NONE  comes(0, 0, 0, 0) = NONE  sum(0, 0) = NONE
                 shifted(0, {0, 1}) = {0, NONE}
                 count({0..4}) = 0
-                """);
-    }
-
-    /** Told to the brim, the last of the 512 calls is still answered. */
-    private static void allCalls() {
-        all.holds(Sentences.WHAT_IT_IS, "An object is used for at most 512 calls after it has been made", """
-                land(0) change(0, {0..399}, 1) = {0..399}  local(0, {0..109}, 400, 3) = 1  count(2) = 400
                 """);
     }
 
@@ -197,6 +190,12 @@ public final class PromiseEdgesTest {
     }
 
     private static void localTimes() {
+        all.holds(13, "LOCAL time of a LAND at SLOT t, as KNOWN by n", """
+                land({2, 2}) change(0, 100, 4) = 0  change(1, 50, 6) = 1  change(0, 60, -2) = 2      # the last one late told
+                local(0, {59, 60, 99, 100}, {0..3}, 3) = {2, 2, 2, 2, 2, 2, 2, -2, 2, 2, 2, -2, 2, 4, 4, 4}
+                local(1, {49, 50}, {0..3}, 3) = {2, 2, 2, 2, 2, 2, 6, 6}
+                local(0, 60, {2, 3}, {0, 1, 2}) = {1, 14, 1, 1, 10, 1}
+                """);
         all.holds(13, "what 0: day, 1: slot, 2: weekday, 3: OFFSET.", """
                 land({-24, 28}) local(0, 0, 0, {-1, 0, 1, 2, 3, 4, MIN, MAX}) = {-1000000, -1, 24, 6, -24, -1000000, -1000000, -1000000}
                 local(1, 17471, 0, {-1, 0, 1, 2, 3, 4}) = {-1000000, 364, 27, 0, 28, -1000000}
@@ -210,6 +209,12 @@ public final class PromiseEdgesTest {
     }
 
     private static void slotsOfLocalTimes() {
+        all.holds(14, "a local day (-1 .. 364) and slot (0 .. 47), as KNOWN by n", """
+                land(0) change(0, 100, 2) = 0  change(0, 100, 0) = 1  change(0, 90, 1) = 2
+                when(0, 2, 4, {0..3}, 0) = {1, 0, 1, 2}                      # not, once again, twice
+                when(0, 2, 4, {0..3}, 1) = {100, NONE, 100, 99}  when(0, 2, 4, {0..3}, 2) = {100, NONE, 100, 100}
+                when(0, 1, 42, {2, 3}, {0, 1, 2}) = {1, 90, 90, 0, NONE, NONE}
+                """);
         all.holds(14, "a local day (-1 .. 364) and slot (0 .. 47)", """
                 land({-24, 28, 0})
                 when(0, -1, {0, 23, 24, 47}, 0, 0) = {0, 0, 1, 1}  when(0, -1, {23, 24, 47}, 0, 1) = {NONE, 0, 23}
@@ -251,6 +256,15 @@ public final class PromiseEdgesTest {
     }
 
     private static void canAndCost() {
+        all.holds(15, "Whether a PERSON CAN from SLOT t on for l SLOTS", """
+                land(0) person(0, {0, 0}) row(0, 48) cell(0, 30, -1)
+                can(0, {24, 25, 30, 31}, 6, 0) = {0, 1, 1, 0}  can(0, 25, {5, 6}, 0) = {0, 1}  can(1, 25, 6, 0) = 0
+                """);
+        all.holds(15, ", as KNOWN by n: 0: yes", """
+                land(0) person(0, 0) row(0, 48) cell(0, 30, -1)
+                busy(0, 24, 25, true) = 0  feast(0, 0) = 1  change(0, 24, 6) = 2
+                can(0, {23, 24, 25}, 1, {0..3}) = {0, 0, 3, 3, 0, 4, 3, 1, 0, 0, 3, 3}
+                """);
         all.holds(15, "for l SLOTS (1 .. 6; none beyond 17471)", """
                 land(0) person(0, 0) can(0, 0, {-1, 0, 1, 6, 7, MIN, MAX}, 0) = {NONE, NONE, 0, 0, NONE, NONE, NONE}
                 can(0, {17466, 17467, 17470, 17471}, {1, 2, 5, 6}, 0) =
@@ -315,6 +329,11 @@ public final class PromiseEdgesTest {
                 fits(0, {-1, 0, 51, 52, MIN, MAX}, 0, NONE, 0) = {NONE, 1, 1, NONE, NONE, NONE}
                 fits(0, 0, 0, NONE, {-1, 0, 1, MIN, MAX}) = {NONE, 1, NONE, NONE, NONE}
                 """);
+        all.holds(18, "FITS in a WEEK, as KNOWN by n: 1, 0.", """
+                land(0) person(0, {0, 0}) series(1, NONE, 1) option(0, {10, 20}) role(0, 0, 1)
+                busy(0, 10, 11, false) = 0  busy(1, 346, 347, false) = 1  busy(0, 20, 21, false) = 2  cant(0, 0, 2) = 3
+                fits(0, {0, 1, 2}, 0, 1, {0..4}) = {1, 1, 1, 0, 0, 1, 1, 0, 0, 0, 1, 1, 1, 1, 0}
+                """);
         all.holds(18, "1, 0.", """
                 land(0) person(0, 0) series(2, NONE, NONE) option(0, {10, 335}) role(0, 0, 1) cant(0, 0, 3) = 0
                 fits(0, {3, 50, 51}, {0, 1}, NONE, {0, 1}) = {1, 0, 1, 0, 1, 1, 1, 1, 1, 1, 0, 0}
@@ -323,6 +342,18 @@ public final class PromiseEdgesTest {
     }
 
     private static void plans() {
+        all.holds(19, "A PLAN of a SERIES for WEEKS a .. b - 1, as KNOWN by n: the greatest SUM", """
+                land({0, 0}) person({0, 1}, 0) row({0, 1}, 48) cell(0, 10, 5) cell(1, 20, 4) cell(1, 12, 7)
+                series(1, NONE, NONE) option(0, {10, 20}) role(0, {0, 1}, 1)
+                plan(0, 0, 1, 0) = 4  planned(0, {0, 1}, 0) = {1, NONE}
+                change(1, 0, 2) = 0  change(1, 336, 0) = 1                   # in WEEK 0 the second costs nobody
+                plan(0, 0, 1, 1) = 0  planned(0, 0, 0) = 1
+                plan(0, 0, 2, 0) = 5  planned(0, {0, 1, 2}, 0) = {0, 1, NONE}
+                plan(0, 0, 2, 1) = 0  planned(0, {0, 1, 2}, 0) = {1, 1, NONE}
+                plan(0, 0, 2, 2) = 4  planned(0, {0, 1, 2}, 0) = {1, 1, NONE}
+                cant(1, 0, 1) = 2  plan(0, 0, 2, 3) = NONE  stuck({0, 1}) = {1, NONE}
+                plan(0, 0, 2, 2) = 4  stuck(0) = NONE  plan(0, 0, 1, 3) = 0
+                """);
         all.holds(19, "as KNOWN by n: the greatest SUM", """
                 series(1, NONE, NONE) option(0, 0) plan(0, 0, 6, 0) = 0      # without PERSONS
                 land(0) person(0, {0, 0}) row({0, 1}, 1) cell(0, 0, 100) cell(1, 0, 99) plan(0, 0, 6, 0) = 0
@@ -376,6 +407,16 @@ public final class PromiseEdgesTest {
     }
 
     private static void moves() {
+        all.holds(21, "A MOVE of a WEEK, as KNOWN by n: how many SERIES have others then", """
+                land(0) person(0, 0) row(0, 48) cell(0, 25, 9) cell(0, 35, -1)
+                series(1, NONE, {NONE, NONE}) option({0, 1}, {10, 20, 30}) role(0, 0, 1) role(1, 0, 2) plan({0, 1}, 0, 2, 0) = 0
+                busy(0, 10, 11, false) = 0  change(0, 15, 5) = 1
+                move(0, 0) = 0  planned({0, 1}, 0, 0) = 0
+                move(0, 1) = 1  planned({0, 1}, 0, 0) = {1, 0}
+                move(0, 2) = 0  planned({0, 1}, 0, 0) = {1, 0}               # though it costs 9 by now
+                busy(0, 20, 21, false) = 2  move(0, 3) = NONE  planned({0, 1}, 0, 0) = {1, 0}    # 30 is NEVER by now
+                move(0, 1) = 0  planned({0, 1}, 1, 0) = 0
+                """);
         all.holds(21, "how many SERIES have others then", """
                 move({0, 51}, 0) = 0                                         # nothing is PLANNED
                 land(0) person(0, 0) series(1, NONE, {NONE, 0}) option({0, 1}, {10, 20, 30}) plan({0, 1}, 51, 52, 0) = 0
@@ -397,6 +438,15 @@ public final class PromiseEdgesTest {
     }
 
     private static void plannedOnes() {
+        all.holds(22, "What is PLANNED of a SERIES in a WEEK", """
+                land(0) person(0, 0) series(1, NONE, {NONE, 0}) option({0, 1}, {10, 20, 30}) plan({0, 1}, 1, 3, 0) = 0
+                planned({0, 1}, {0..3}, 0) = {NONE, 0, 0, NONE, NONE, 0, 0, NONE}
+                planned({0, 1}, {1, 2}, {2, 3}) = {346, NONE, 682, NONE, 346, 356, 682, 692}
+                role(0, 0, 1) busy(0, 346, 347, false) = 0  plan(0, 1, 2, 1) = 0     # by a PLAN anew
+                planned(0, {1, 2}, {0, 2}) = {1, 356, 0, 682}
+                move(1, 1) = NONE  option(1, 40) move(1, 1) = 1                      # by a MOVE
+                planned(0, 1, {0..3}) = {1, NONE, 356, NONE}  planned(1, {1, 2}, {0..3}) = {2, 3, 366, 376, 0, 1, 682, 692}
+                """);
         all.holds(22, "what 0: the OPTION, 1: the second one (NONE if it is not SPLIT), 2, 3: the SLOT of these (NONE)", """
                 land(0) person(0, 0) series(1, NONE, {NONE, 0}) option(0, {0, 335}) option(1, {335, 0}) role(0, 0, 1)
                 plan(0, 51, 52, 0) = 0  busy(0, 0, 1, false) plan(0, 0, 1, 1) = 0
@@ -412,6 +462,14 @@ public final class PromiseEdgesTest {
     }
 
     private static void comers() {
+        all.holds(23, "Whether a PERSON comes to a SERIES PLANNED in a WEEK, as KNOWN by n", """
+                land({0, 0}) person({0, 1, 0}, 0) row(1, 48) cell(1, 10, 3) cell(1, 22, 5)
+                series(1, NONE, 2) option(0, {10, 20}) role(0, {0, 1}, 2) plan(0, 0, 1, 0) = 0
+                comes({0, 1, 2}, 0, {0, 1}, 0) = {1, NONE, 2, NONE, 3, NONE}
+                change(1, 15, 2) = 0  busy(1, 10, 11, false) = 1  change(1, 0, 1) = 2  cant(1, 0, 0) = 3
+                comes(1, 0, 0, {0..5}) = {2, 1, 2, 2, 0, NONE}               # the second became the dearer, the first BUSY
+                comes({0, 2}, 0, 0, {0..5}) = {1, 1, 1, 1, 1, NONE, 3, 3, 3, 3, 3, NONE}
+                """);
         all.holds(23, "0 no, 1 to the first (the only) one, 2 to the second, 3 to both", """
                 land(0) person(0, {0, 0, 0}) row({0, 1}, 48) cell(0, 10, 1) cell(1, 20, 1)
                 series(1, NONE, {NONE, 2}) option(0, 30) option(1, {10, 20}) role({0, 1}, {0, 1}, 2) plan({0, 1}, 0, 1, 0) = 0
@@ -446,6 +504,11 @@ public final class PromiseEdgesTest {
     }
 
     private static void shiftedOnes() {
+        all.holds(25, "as KNOWN by m, than as KNOWN by n", """
+                land(0) person(0, 0) series(1, NONE, NONE) option(0, 10) role(0, 0, 2) plan(0, 0, 3, 0) = 0
+                change(0, 0, 1) = 0  change(0, 336, 0) = 1  change(0, 672, 1) = 2  change(0, 336, 1) = 3
+                shifted({0..4}, {0..4}) = {0, 3, 1, 2, 3, 3, 0, 2, 1, 0, 1, 2, 0, 1, 2, 2, 1, 1, 0, 1, 3, 0, 2, 1, 0}
+                """);
         all.holds(25, "How many meetings that are PLANNED (halves each by itself) begin at another LOCAL time", """
                 land({0, 2}) person({0, 1}, 0) shifted(0, 0) = 0
                 series(2, NONE, {NONE, 0}) option(0, 30) option(1, {10, 20}) role({0, 1}, 1, 2)

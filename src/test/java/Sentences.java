@@ -1,11 +1,13 @@
 import java.io.IOException;
 import java.nio.file.Files;
 import java.nio.file.Path;
+import java.util.ArrayList;
+import java.util.List;
 
 /**
  * Tests of single sentences: each quotes the words that it is about, which have to stand in that part of the
  * document, and tells a run of calls that shows whether they hold. The plain one has to answer as is due, too,
- * since other tests rely on it.
+ * since other tests rely on it. At the end each word of a part has to be quoted, so no sentence goes without a run.
  */
 final class Sentences {
     static final int TERMS = 0;
@@ -13,7 +15,13 @@ final class Sentences {
 
     private static final Path DOCUMENT = Path.of("../shared/DOC.md");
 
+    /** What may stand between two quotes: headings of parts, marks of code, and words that but join. */
+    private static final String JOINTS = "==== I+\\.|```(text)?|\\b(and|or)\\b";
+
+    private record Quote(int promise, String words) { }
+
     private final String document;
+    private final List<Quote> quotes = new ArrayList<>();
     private int sentences;
     private int answers;
     private int wrong;
@@ -24,6 +32,7 @@ final class Sentences {
 
     void holds(int promise, String words, String run) {
         sentences++;
+        quotes.add(new Quote(promise, oneLine(words)));
         String where = heading(promise) + " \"" + words + "\"";
         if (document != null && !section(promise).contains(oneLine(words))) {
             report(where + ": the document does not say so there");
@@ -43,6 +52,19 @@ final class Sentences {
         }
     }
 
+    void mustAllBeQuoted(int promise) {
+        if (document == null) return;
+        String text = body(promise);
+        StringBuilder left = new StringBuilder(text);
+        for (Quote quote : quotes) {
+            int at = quote.promise() == promise ? text.indexOf(quote.words()) : -1;
+            for (int k = 0; at >= 0 && k < quote.words().length(); k++) left.setCharAt(at + k, '|');
+        }
+        for (String words : left.toString().replaceAll(JOINTS, "|").split("\\|+")) {
+            if (words.matches(".*\\w.*")) report(heading(promise) + " no run is about \"" + words.trim() + "\"");
+        }
+    }
+
     private void report(String what) {
         wrong++;
         System.out.println(what);
@@ -52,6 +74,11 @@ final class Sentences {
         int from = document.indexOf("## " + heading(promise));
         int to = from < 0 ? -1 : document.indexOf(" ## ", from);
         return from < 0 ? "" : document.substring(from, to < 0 ? document.length() : to);
+    }
+
+    /** A part without its heading and the method that it is about. */
+    private String body(int promise) {
+        return section(promise).replaceFirst("## (What it is|Terms|Promise \\d+: .*?`[^`]*`:)", "");
     }
 
     private static String heading(int promise) {

@@ -30,6 +30,7 @@ public final class TermsTest {
         plannedOnes();
         moves();
         movesInOrder();
+        all.mustAllBeQuoted(Sentences.TERMS);
         all.end();
     }
 
@@ -40,6 +41,14 @@ public final class TermsTest {
     // ---- I
 
     private static void time() {
+        terms("TIME is counted in SLOTS of half an hour, all the same everywhere", """
+                land({-24, 0, 28}) person({0, 1, 2}, 0)
+                local({0, 1, 2}, 100, 0, {0, 1}) = {1, 28, 2, 4, 2, 32}
+                busy({0, 1, 2}, 100, 102, false) = {0, 1, 2}            # in SLOTS, whatever the clocks tell
+                can({0, 1, 2}, {99, 100, 101, 102}, 1, 3) = {0, 4, 4, 0, 0, 4, 4, 0, 0, 4, 4, 0}
+                series(2, NONE, NONE) option(0, 100) role(0, {0, 1, 2}, 2) plan(0, 0, 2, 0) = 0
+                planned(0, {0, 1}, 2) = {100, 436}  comes({0, 1, 2}, 0, {0, 1}, 3) = {0, 1, 0, 1, 0, 1}
+                """);
         terms("SLOT t (0 .. 17471)", """
                 land(0) person(0, 0)
                 local(0, {-1, 0, 17471, 17472, MIN, MAX}, 0, 1) = {-1000000, 0, 47, -1000000, -1000000, -1000000}
@@ -186,7 +195,7 @@ public final class TermsTest {
     }
 
     private static void clocks() {
-        terms("of its CHANGES that are from t or ahead the one with the latest SLOT", """
+        terms("The OFFSET of a LAND at SLOT t: of its CHANGES that are from t or ahead the one with the latest SLOT", """
                 land(0) change(0, 200, 2) change(0, 100, 1) change(0, 300, 3)      # told in another order
                 local(0, {0, 99, 100, 199, 200, 299, 300, 17471}, 3, 3) = {0, 0, 1, 1, 2, 2, 3, 3}
                 local(0, {99, 100, 199, 200, 299, 300}, 2, 3) = {0, 1, 1, 2, 2, 2}
@@ -299,6 +308,13 @@ public final class TermsTest {
     }
 
     private static void canAndCost() {
+        terms("A PERSON CAN from SLOT t on for L SLOTS, as KNOWN by n", """
+                land(0) person(0, 0) row(0, 48) cell(0, 20, -1)
+                busy(0, 103, 104, false) = 0  feast(0, 4) = 1  change(0, 300, 5) = 2
+                can(0, 100, {1..6}, {0, 1}) = {0, 0, 0, 0, 0, 0, 0, 4, 0, 4, 0, 4}
+                can(0, 188, {4, 5}, {1, 2}) = {0, 0, 0, 3}
+                can(0, 303, {1..6}, {2, 3}) = {0, 1, 0, 1, 0, 1, 0, 1, 0, 1, 1, 1}      # NEVER at 308, or at 303
+                """);
         terms("each of these SLOTS is not NEVER", """
                 land(0) person(0, 0) row(0, 48) cell(0, 10, -1)
                 can(0, {4, 5, 10, 11}, 6, 0) = {0, 1, 1, 0}
@@ -380,7 +396,7 @@ public final class TermsTest {
                 fits(1, 0, {0, 1, 2}, NONE, 0) = {1, 1, NONE}
                 plan(0, 0, 1, 0) = 0  planned(0, 0, {0, 2}) = {0, 335}      # the first told, not the earliest
                 """);
-        terms("a SERIES of a lesser number", """
+        terms("its CHAIN: a SERIES of a lesser number", """
                 series(1, {-2, 0, 1, MIN, MAX}, NONE) = NONE
                 series(1, NONE, NONE) = 0
                 series(1, {-2, 1, 2, MIN, MAX}, NONE) = NONE          # nor itself
@@ -428,6 +444,14 @@ public final class TermsTest {
     }
 
     private static void fitting() {
+        terms("AN OPTION in a WEEK FITS, as KNOWN by n", """
+                land(0) person(0, 0) row(0, 48) cell(0, 11, -1)
+                series(1, NONE, {NONE, NONE}) option({0, 1}, 10) role({0, 1}, 0, 1) plan(0, 0, 2, 0) = 0
+                fits(1, {0, 1}, 0, NONE, 0) = 0                         # engaged in SERIES 0
+                cant(0, 0, 0) = 0  fits(1, {0, 1}, 0, NONE, {0, 1}) = {0, 1, 0, 0}
+                busy(0, 10, 11, false) = 1  fits({0, 1}, 0, 0, NONE, {0, 1, 2}) = {1, 0, 0, 0, 1, 0}
+                change(0, 300, 1) = 2  fits(0, 1, 0, NONE, {2, 3}) = {1, 0}
+                """);
         terms("its SLOTS are all of the 52 WEEKS", """
                 land(0) person(0, 0) series({1, 2, 6}, NONE, NONE)
                 option(0, 335) option(1, {334, 335}) option(2, {330, 331, 335})
@@ -585,7 +609,7 @@ public final class TermsTest {
     }
 
     private static void pairsFitting() {
-        terms("each MUST IS FREE in one of both at least", """
+        terms("it FITS if each MUST IS FREE in one of both at least", """
                 land(0) person(0, {0, 0}) series(1, NONE, 1) option(0, {10, 11, 12}) role(0, 0, 1)
                 busy(0, 10, 11, false) = 0  busy(0, 11, 12, false) = 1  busy(0, 12, 13, false) = 2
                 fits(0, 0, 0, {1, 2}, {0..3}) = {1, 1, 0, 0, 1, 1, 1, 0}
@@ -628,7 +652,7 @@ public final class TermsTest {
     }
 
     private static void halves() {
-        terms("comes to the one that COSTS it less (the first, if alike)", """
+        terms("Who comes, and IS FREE in both, comes to the one that COSTS it less (the first, if alike)", """
                 land(0) person(0, {0, 0, 0, 0, 0}) row({0..3}, 48) series(2, NONE, 4) option(0, {10, 20}) role(0, {0..3}, 2)
                 cell(0, 10, 6) cell(0, 21, 5)
                 cell(1, 11, 5) cell(1, 20, 4)
@@ -836,7 +860,7 @@ public final class TermsTest {
     }
 
     private static void plannedOnes() {
-        terms("in place of what the SERIES had in these WEEKS", """
+        terms("When a PLAN is found, it is PLANNED: in place of what the SERIES had in these WEEKS", """
                 land(0) person(0, 0) series(1, NONE, NONE) option(0, {10, 20}) role(0, 0, 1)
                 plan(0, 0, 4, 0) = 0  row(0, 48) cell(0, 10, 1)
                 plan(0, 1, 3, 0) = 0  planned(0, {0..4}, 0) = {0, 1, 1, 0, NONE}  count(4) = 4
@@ -859,7 +883,7 @@ public final class TermsTest {
     }
 
     private static void moves() {
-        terms("all SERIES that are PLANNED in it are given OPTIONS (pairs) anew", """
+        terms("A MOVE of a WEEK: all SERIES that are PLANNED in it are given OPTIONS (pairs) anew", """
                 land(0) person(0, 0) series(1, NONE, {NONE, NONE, 0, NONE}) option({0, 1}, {10, 20, 30})
                 option(2, {40, 50, 60}) option(3, {70, 80})
                 plan({0, 2, 3}, 0, 2, 0) = 0  role({0, 3}, 0, 1)
@@ -869,7 +893,7 @@ public final class TermsTest {
                 planned({0..3}, 1, 0) = {0, NONE, 0, 0}  planned(2, 1, 1) = 1       # another WEEK stays
                 count(4) = 6
                 """);
-        terms("SERIES by SERIES, each FITS (with those ahead)", """
+        terms("so that, SERIES by SERIES, each FITS (with those ahead)", """
                 land(0) person(0, 0) series(1, NONE, NONE) series(1, 0, {NONE, NONE})
                 option(0, {10, 20}) option(1, {11, 21, 20, 22}) option(2, {15, 25, 22, 21}) role({0, 2}, 0, 2)
                 plan({0, 1, 2}, 0, 1, 0) = 0
@@ -888,7 +912,7 @@ public final class TermsTest {
                 move(1, 0) = 1  planned(1, {0, 1}, 0) = {0, 1}
                 move(0, 0) = 0  planned(1, {0, 1}, 0) = {0, 1}                                  # no CHAIN in WEEK 0
                 """);
-        terms("that by which the fewest SERIES have others than now", """
+        terms("of all ways that by which the fewest SERIES have others than now", """
                 land(0) person(0, 0) row(0, 48) series(1, NONE, {NONE, NONE, NONE})
                 option(0, {10, 12, 14, 16}) option(1, {12, 13}) option(2, {14, 15}) role({0, 1, 2}, 0, 1)
                 plan({0, 1, 2}, 0, 1, 0) = 0  planned({0, 1, 2}, 0, 2) = {10, 12, 14}
@@ -917,7 +941,7 @@ public final class TermsTest {
     }
 
     private static void movesInOrder() {
-        terms("that whose SUMS of the WEEK alone, the greatest first, come first", """
+        terms("of these that whose SUMS of the WEEK alone, the greatest first, come first", """
                 land(0) person(0, {0, 0}) row({0, 1}, 48) series(1, NONE, {NONE, NONE}) option(0, {10, 20, 30}) option(1, {40, 41})
                 role(0, {0, 1}, 1) role(1, 0, 2)
                 plan({0, 1}, 0, 6, 0) = 0
